@@ -1,0 +1,33 @@
+/** Counts the answers of one test class, and prints those that are not the ones that are due. */
+final class Due {
+    private static int right = 0;
+    private static int wrong = 0;
+
+    private Due() {
+    }
+
+    static void is(String what, long want, long got) {
+        if (got == want) {
+            right++;
+        } else {
+            wrong++;
+            System.out.println(what + " answered " + got + ", due is " + want);
+        }
+    }
+
+    static void is(String what, boolean want, boolean got) {
+        is(what, want ? 1 : 0, got ? 1 : 0);
+    }
+
+    static void holds(String what, boolean claim) {
+        is(what, true, claim);
+    }
+
+    /** The last call of a test's main method. */
+    static void end() {
+        System.out.println(right + " answers as due, " + wrong + " not");
+        if (wrong != 0) {
+            System.exit(1);
+        }
+    }
+}
