@@ -53,7 +53,10 @@ public final class PathJudge {
     private final int[] args = new int[MOST_INSTRUCTIONS];
     private int length;
 
-    /** What the checker found; made anew at each change of the program, so that asking is only looking. */
+    /**
+     * What the checker found at each position: made anew when an instruction is set, so that asking
+     * is only looking. An empty program needs nothing here, since no position is looked at then.
+     */
     private final int[] faultBits = new int[MOST_INSTRUCTIONS];
     private final int[] heightBits = new int[MOST_INSTRUCTIONS];
     private final int[] kindBits = new int[KIND_SLOTS];
@@ -114,7 +117,6 @@ public final class PathJudge {
 
     public void clear() {
         length = 0;
-        judge();
         resetMachine(IDLE);
     }
 
@@ -229,9 +231,6 @@ public final class PathJudge {
 
     private void judge() {
         forgetJudgement();
-        if (length == 0) {
-            return;
-        }
         kindHeight = 0;
         kindLocals[0] = UNSET;
         kindLocals[1] = UNSET;
@@ -344,6 +343,7 @@ public final class PathJudge {
         }
     }
 
+    /** Only the locals 0 and 1 are ever named; the mask lets that be seen where the index is used. */
     private void changeKinds(int op, int arg) {
         int top = kindBelowTop(0);
         int below = kindBelowTop(1);
@@ -459,7 +459,6 @@ public final class PathJudge {
         position = 0;
         height = 0;
         records = 0;
-        choices = 0;
         forks = 0;
         locals[0] = 0;
         locals[1] = 0;
@@ -492,6 +491,7 @@ public final class PathJudge {
         return chosen;
     }
 
+    /** The mask is there for the same reason as in changeKinds. */
     private void changeCells(int op, int arg) {
         int top = cellBelowTop(0);
         int below = cellBelowTop(1);

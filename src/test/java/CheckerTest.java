@@ -21,6 +21,7 @@ public final class CheckerTest {
         heights();
         kindsMove();
         kindsMeet();
+        kindsOfNeighbours();
         kindsOfOtherNumbers();
         heightsAreKeptApart();
         distances();
@@ -201,6 +202,9 @@ public final class CheckerTest {
         for (int p : FAR) {
             Due.is("8: heights(" + p + ")", 0, judge.heights(p));
         }
+        judge.patch(1, Code.JUMP, 4);
+        Due.is("8: patched: heights(3)", 0, judge.heights(3));
+        Due.is("8: patched: heights(4)", 2, judge.heights(4));
         PathJudge round = Code.program(4, 1, Code.FORK, 3, Code.PUSH, 0, Code.JUMP, 0, Code.FORK, 5,
                 Code.JUMP, 3, Code.POP, 0, Code.JUMP, 3);
         Due.is("8: up and down", 31, round.heights(3));
@@ -263,6 +267,18 @@ public final class CheckerTest {
         Due.is("9: height 0", 0, apart.kinds(5, 0, 4));
     }
 
+    /** Records at position 3 with four cells, numbers at position 4 with any: neither shows at the other. */
+    private static void kindsOfNeighbours() {
+        PathJudge judge = Code.program(4, 1, Code.FORK, 4, Code.NEW, 0, Code.DUP, 0, Code.FORK, 2, Code.PUSH, 0,
+                Code.FORK, 4);
+        for (int h = 0; h <= 4; h++) {
+            Due.is("9: kinds(3, " + h + ", 0)", h < 2 ? 0 : R, judge.kinds(3, h, 0));
+            Due.is("9: kinds(3, " + h + ", 4)", h < 2 ? 0 : U, judge.kinds(3, h, 4));
+            Due.is("9: kinds(5, " + h + ", 0)", h < 1 ? 0 : h < 3 ? N : N + R, judge.kinds(5, h, 0));
+            Due.is("9: kinds(5, " + h + ", 3)", h < 4 ? 0 : N, judge.kinds(5, h, 3));
+        }
+    }
+
     private static void kindsOfOtherNumbers() {
         PathJudge judge = Code.program(4, 1, Code.PUSH, 0, Code.PUSH, 0, Code.PUSH, 0, Code.PUSH, 0, Code.STOP, 0);
         for (int h = 0; h <= 4; h++) {
@@ -312,6 +328,7 @@ public final class CheckerTest {
         Due.is("10: distance(length())", -1, judge.distance(8));
         PathJudge loop = Code.program(4, 1, Code.PUSH, 0, Code.POP, 0, Code.JUMP, 0);
         Due.is("10: back at 0", 0, loop.distance(0));
+        Due.is("10: at 0 in another way", 0, Code.program(4, 1, Code.PUSH, 0, Code.FORK, 0).distance(0));
         // The short way to 3 ends at the POP of an empty stack, so 4 is first reached the long way.
         PathJudge longer = Code.program(4, 1, Code.FORK, 3, Code.PUSH, 0, Code.JUMP, 3, Code.POP, 0, Code.JUMP, 4);
         Due.is("10: the short way", 1, longer.distance(3));

@@ -113,6 +113,12 @@ public final class MachineTest {
         Due.is("12: field", -6, judge.cell(8));
         PathJudge pop = Code.run(0, 4, 8, Code.PUSH, 8, Code.PUSH, 9, Code.POP, 0, Code.STOP, 0);
         isStack("12: POP", pop, 8);
+        PathJudge swap = Code.run(0, 5, 8, Code.PUSH, 1, Code.PUSH, 2, Code.PUSH, 3, Code.PUSH, 4, Code.SWAP, 0,
+                Code.STOP, 0);
+        isStack("12: SWAP on four", swap, 1, 2, 4, 3);
+        PathJudge add = Code.run(0, 5, 8, Code.PUSH, 1, Code.PUSH, 2, Code.PUSH, 3, Code.PUSH, 4, Code.ADD, 0,
+                Code.STOP, 0);
+        isStack("12: ADD on four", add, 1, 2, 7);
     }
 
     private static void addWraps() {
@@ -156,6 +162,9 @@ public final class MachineTest {
         PathJudge later = Code.run(0, 5, 8, Code.NEW, 0, Code.POP, 0, Code.NEW, 0, Code.DUP, 0, Code.SAME, 0,
                 Code.STOP, 0);
         isStack("12: SAME, the second record twice", later, 1);
+        PathJudge below = Code.run(0, 5, 8, Code.PUSH, 6, Code.PUSH, 7, Code.NEW, 0, Code.DUP, 0, Code.SAME, 0,
+                Code.STOP, 0);
+        isStack("12: SAME leaves what is below", below, 6, 7, 1);
     }
 
     /** The cell counts the forks that went on at t by 1 and the others by 100, one fork every four steps. */
