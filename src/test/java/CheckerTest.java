@@ -25,7 +25,7 @@ public final class CheckerTest {
         kindsOfOtherNumbers();
         heightsAreKeptApart();
         distances();
-        everySituation();
+        everyKindEverywhere();
         Due.end();
     }
 
@@ -340,8 +340,8 @@ public final class CheckerTest {
         Due.is("10: three rounds", 3 * 2 + 3, rounds.distance(5));
     }
 
-    /** Every stack and every pair of locals at one position: 121 stacks times 9 pairs are kept apart. */
-    private static void everySituation() {
+    /** A program that brings every kind into every place at every height, all at position 0. */
+    private static void everyKindEverywhere() {
         PathJudge judge = Code.program(4, 1, Code.FORK, 9, Code.FORK, 4, Code.FORK, 6, Code.FORK, 8,
                 Code.PUSH, 0, Code.JUMP, 0, Code.NEW, 0, Code.JUMP, 0, Code.LOAD, 0, Code.FORK, 13,
                 Code.FORK, 12, Code.KEEP, 0, Code.KEEP, 1, Code.JUMP, 0);
