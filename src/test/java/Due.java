@@ -1,9 +1,15 @@
 /** Counts the answers of one test class, and prints those that are not the ones that are due. */
 final class Due {
+    private static String subject = "";
     private static int right = 0;
     private static int wrong = 0;
 
     private Due() {
+    }
+
+    /** What the answers from here on are about, for the lines that are printed. */
+    static void about(String words) {
+        subject = "\"" + words + "\": ";
     }
 
     static void is(String what, long want, long got) {
@@ -11,7 +17,7 @@ final class Due {
             right++;
         } else {
             wrong++;
-            System.out.println(what + " answered " + got + ", due is " + want);
+            System.out.println(subject + what + " answered " + got + ", due is " + want);
         }
     }
 
@@ -21,6 +27,10 @@ final class Due {
 
     static void holds(String what, boolean claim) {
         is(what, true, claim);
+    }
+
+    static int answers() {
+        return right + wrong;
     }
 
     /** The last call of a test's main method. */

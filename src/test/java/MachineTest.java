@@ -1,266 +1,568 @@
 /** Promises 11 to 17: the machine. */
 public final class MachineTest {
+    private static final int[] CHOICES = {0, 1, 2, -2, -1, 0x55555555, 0x12345678, 0x7fffffff, 0x80000000, 0x80000001,
+        0x00010000, 0xffff0000};
+
     private MachineTest() {
     }
 
     public static void main(String[] args) {
-        startRefuses();
-        startsAfresh();
-        stepsAreCounted();
-        stepsNotRunning();
-        operations();
-        addWraps();
-        unsetLocals();
-        recordsAreNumbered();
-        sameRecords();
-        forksFollowChoices();
-        forksWrapAtThirtyTwo();
-        stops();
-        exhausts();
-        cells();
-        Due.end();
+        Document.open("## Promise 11: start `boolean start(int choices)`:", "## Promise 12");
+        Document.says("Starts the machine afresh, whatever it was doing.", MachineTest::startsAfresh);
+        Document.says("Refused with false, changing nothing, when verdict() is not SAFE.", MachineTest::startRefuses);
+        Document.says("Otherwise true: RUNNING, position 0, height 0, both locals 0, no records,",
+                MachineTest::startState);
+        Document.says("no forks carried out;", MachineTest::startForks);
+        Document.says("choices says how the forks will go.", MachineTest::startChoices);
+
+        Document.open("## Promise 12: step `int step(int n)`:", "## Promise 13");
+        Document.says("Carries out up to n instructions", MachineTest::stepsUpTo);
+        Document.says("(n below 0 counts as 0,", MachineTest::stepsBelowNone);
+        Document.says("above 64 as 64),", MachineTest::stepsAboveMost);
+        Document.says("and answers how many were carried out.", MachineTest::stepAnswers);
+        Document.says("Nothing is carried out unless the machine is RUNNING.", MachineTest::stepNotRunning);
+        Document.says("An instruction is carried out as the table says;", MachineTest::operations);
+        Document.says("ADD wraps as ints do.", MachineTest::addWraps);
+        Document.says("FORK: the k-th FORK carried out since the start (counted from 0) goes on at t when bit (k mod"
+                + " 32) of choices is 1, else at the next position.", MachineTest::forks);
+        Document.says("SAME pushes 1 when the two record numbers are equal, else 0.", MachineTest::same);
+        Document.says("STOP counts as carried out;", MachineTest::stopCounts);
+        Document.says("the machine is then STOPPED, its position stays at the STOP, its cells stay.",
+                MachineTest::stopStays);
+        Document.says("NEW, when as many records as the pool has were made already, is not carried out (and not"
+                + " counted):", MachineTest::newAtTheEnd);
+        Document.says("the machine is then EXHAUSTED, its position stays at the NEW, nothing else changes.",
+                MachineTest::newStays);
+
+        Document.open("## Promise 13: status `int status()`:", "## Promise 14");
+        Document.says("IDLE (after a reset, and at first), RUNNING, STOPPED or EXHAUSTED.", MachineTest::status);
+
+        Document.open("## Promise 14: position `int position()`:", "## Promise 15");
+        Document.says("The position of the machine;", MachineTest::position);
+        Document.says("0 when it is IDLE.", MachineTest::positionIdle);
+
+        Document.open("## Promise 15: height `int height()`:", "## Promise 16");
+        Document.says("The height of the machine's stack;", MachineTest::height);
+        Document.says("0 when it is IDLE.", MachineTest::heightIdle);
+
+        Document.open("## Promise 16: records `int records()`:", "## Promise 17");
+        Document.says("How many records were made since the start;", MachineTest::records);
+        Document.says("0 when the machine is IDLE.", MachineTest::recordsIdle);
+
+        Document.open("## Promise 17: cell `int cell(int i)`:", "## Not promised");
+        Document.says("What the machine holds: i from 0 to height() - 1 is a stack cell (0 the bottom);",
+                MachineTest::cellOfStack);
+        Document.says("4 is local 0, 5 is local 1;", MachineTest::cellOfLocals);
+        Document.says("8 + r, for r from 0 to records() - 1, is the field of record r.", MachineTest::cellOfRecords);
+        Document.says("0 for any other i,", MachineTest::cellElsewhere);
+        Document.says("and whenever the machine is IDLE.", MachineTest::cellIdle);
+        Document.end();
     }
 
-    private static void startRefuses() {
-        PathJudge empty = new PathJudge(4, 8);
-        Due.is("11: empty", false, empty.start(5));
-        Code.isIdle("11: empty", empty);
-        PathJudge judge = Code.program(4, 8, Code.PUSH, 1, Code.POP, 0);
-        Due.is("11: unsafe", false, judge.start(0));
-        Code.isIdle("11: unsafe", judge);
-        Due.is("11: unsafe: step(4)", 0, judge.step(4));
+    private static void isFresh(String when, PathJudge judge) {
+        Code.isAt(when, judge, PathJudge.RUNNING, 0, 0, 0);
+        for (int i = -1; i < 17; i++) {
+            Due.is(when + ": cell(" + i + ")", 0, judge.cell(i));
+        }
     }
 
     private static void startsAfresh() {
-        PathJudge judge = Code.program(4, 2, Code.NEW, 0, Code.DUP, 0, Code.KEEP, 1, Code.PUSH, 7, Code.WRITE, 0,
-                Code.PUSH, 6, Code.KEEP, 0, Code.FORK, 9, Code.JUMP, 0, Code.PUSH, 5, Code.STOP, 0);
-        Due.is("11: start(1)", true, judge.start(1));
-        Code.isAt("11: started", judge, PathJudge.RUNNING, 0, 0, 0);
-        Due.is("11: step(64)", 10, judge.step(64));
-        Code.isAt("11: stopped", judge, PathJudge.STOPPED, 10, 1, 1);
-        Due.is("11: cell(4)", 6, judge.cell(4));
-        Due.is("11: cell(5)", 0, judge.cell(5));
-        Due.is("11: start(0) when STOPPED", true, judge.start(0));
-        isFresh(judge);
-        Due.is("11: new choices, new count of forks", 18, judge.step(64));
-        Code.isAt("11: exhausted", judge, PathJudge.EXHAUSTED, 0, 0, 2);
-        Due.is("11: cell(5)", 1, judge.cell(5));
-        Due.is("11: start(2) when EXHAUSTED", true, judge.start(2));
-        isFresh(judge);
-        Due.is("11: the second fork goes", 19, judge.step(64));
-        Due.is("11: start(0)", true, judge.start(0));
-        Due.is("11: step(6)", 6, judge.step(6));
-        Due.is("11: start(1) when RUNNING", true, judge.start(1));
-        isFresh(judge);
-        Due.is("11: step(2)", 2, judge.step(2));
-        Due.is("11: a new record's field", 0, judge.cell(8));
-        Due.is("11: a new record", 0, judge.cell(1));
+        for (PathJudge judge : Code.busy()) {
+            int before = judge.status();
+            Due.is("start(0) from " + before, true, judge.start(0));
+            isFresh("from " + before, judge);
+            Due.is("it runs from " + before, 2, judge.step(2));
+            Code.isStack("it runs from " + before, judge, 0, 0);
+        }
+        PathJudge idle = Code.program(4, 8, "PUSH 5, STOP");
+        Due.is("start(0) from IDLE", true, idle.start(0));
+        isFresh("from IDLE", idle);
+        Due.is("start(0) at the start", true, idle.start(0));
+        isFresh("from the start", idle);
     }
 
-    private static void isFresh(PathJudge judge) {
-        Code.isAt("11: afresh", judge, PathJudge.RUNNING, 0, 0, 0);
-        for (int i = 0; i < 16; i++) {
-            Due.is("11: afresh: cell(" + i + ")", 0, judge.cell(i));
+    private static void startRefuses() {
+        for (int choices : CHOICES) {
+            PathJudge empty = new PathJudge(4, 8);
+            Due.is("EMPTY: start(" + choices + ")", false, empty.start(choices));
+            Code.isIdle("EMPTY", empty);
+            Due.is("EMPTY: step(1)", 0, empty.step(1));
+        }
+        for (String text : new String[] {"POP, JUMP 0", "PUSH 1, JUMP 0", "NEW, STOP", "PUSH 1"}) {
+            PathJudge unsafe = Code.program(1, 8, text);
+            Due.is("UNSAFE: start(0) of " + text, false, unsafe.start(0));
+            Code.isIdle("UNSAFE", unsafe);
+            Due.is("UNSAFE: step(64) of " + text, 0, unsafe.step(64));
+            Due.is("UNSAFE: verdict() of " + text, PathJudge.UNSAFE, unsafe.verdict());
+        }
+        PathJudge cleared = Code.run(1, "PUSH 5, STOP");
+        cleared.clear();
+        Due.is("cleared: start(0)", false, cleared.start(0));
+        Code.isIdle("cleared", cleared);
+        PathJudge broken = Code.run(1, "PUSH 5, STOP");
+        broken.patch(0, Code.NEW, 0);
+        Due.is("broken: start(0)", false, broken.start(0));
+        Code.isIdle("broken", broken);
+        broken.patch(0, Code.PUSH, 6);
+        Due.is("mended: start(0)", true, broken.start(0));
+    }
+
+    private static void startState() {
+        PathJudge judge = Code.program(4, 8, "NEW, DUP, PUSH 7, WRITE, KEEP 1, PUSH 6, KEEP 0, PUSH 5, STOP");
+        for (int run = 0; run < 3; run++) {
+            Due.is("start(" + run + ")", true, judge.start(run));
+            isFresh("run " + run, judge);
+            Due.is("step(64)", 9, judge.step(64));
+            Code.isAt("run " + run, judge, PathJudge.STOPPED, 8, 1, 1);
+            Due.is("local 0", 6, judge.cell(4));
+            Due.is("field", 7, judge.cell(8));
+        }
+        PathJudge locals = Code.started(1, "FORK 3, LOAD 0, JUMP 5, PUSH 9, KEEP 0, LOAD 0, PUSH 1, STOP");
+        locals.step(64);
+        Due.is("a local is set in this run", 9, locals.cell(4));
+        locals.start(0);
+        locals.step(64);
+        Due.is("a local is 0 in the next", 0, locals.cell(0));
+    }
+
+    /** The first fork of choices 1 goes, the next ones do not, whatever the run before came to. */
+    private static void startForks() {
+        PathJudge judge = Code.program(4, 8, "FORK 0, JUMP 0");
+        for (int steps = 1; steps <= 64; steps++) {
+            judge.start(1);
+            judge.step(1);
+            Due.is("the first fork of run " + steps, 0, judge.position());
+            judge.step(1);
+            Due.is("the second fork of run " + steps, 1, judge.position());
+            judge.step(steps);
         }
     }
 
-    private static void stepsAreCounted() {
-        PathJudge judge = Code.program(4, 8, Code.PUSH, 1, Code.PUSH, 1, Code.ADD, 0, Code.JUMP, 1);
-        judge.start(0);
-        int[] asked = {0, -1, Integer.MIN_VALUE, 1, 63, 64, 65, Integer.MAX_VALUE};
-        int[] due = {0, 0, 0, 1, 63, 64, 64, 64};
+    private static void startChoices() {
+        PathJudge judge = Code.program(4, 8, "FORK 0, JUMP 0");
+        for (int choices : CHOICES) {
+            Due.is("start(" + choices + ")", true, judge.start(choices));
+            judge.step(1);
+            Due.is("the first fork of " + choices, choices % 2 == 0 ? 1 : 0, judge.position());
+        }
+        for (int bit = 0; bit < 32; bit++) {
+            judge.start(1 << bit);
+            judge.step(2 * bit);
+            Due.is("before fork " + bit, 0, judge.position());
+            judge.step(1);
+            Due.is("fork " + bit + " of 1 << " + bit, 0, judge.position());
+            judge.start(~(1 << bit));
+            judge.step(bit);
+            Due.is("before fork " + bit, 0, judge.position());
+            judge.step(1);
+            Due.is("fork " + bit + " of all but 1 << " + bit, 1, judge.position());
+        }
+    }
+
+    /** After k steps the position is 1 + (k - 1) % 3, and the cell has counted the rounds. */
+    private static PathJudge counter() {
+        return Code.started(0, "PUSH 0, PUSH 1, ADD, JUMP 1");
+    }
+
+    private static void isCounted(String when, PathJudge judge, int total) {
+        Due.is(when + ": position()", total == 0 ? 0 : 1 + (total - 1) % 3, judge.position());
+        Due.is(when + ": cell(0)", total < 3 ? 0 : total / 3, judge.cell(0));
+        Due.is(when + ": status()", PathJudge.RUNNING, judge.status());
+    }
+
+    private static void stepsUpTo() {
+        for (int n = 0; n <= 64; n++) {
+            PathJudge judge = counter();
+            judge.step(n);
+            isCounted("step(" + n + ")", judge, n);
+        }
+        PathJudge twice = counter();
+        twice.step(5);
+        twice.step(7);
+        isCounted("step(5) and step(7)", twice, 12);
+    }
+
+    private static void stepsBelowNone() {
+        PathJudge judge = counter();
+        for (int n : new int[] {0, -1, -2, -64, -65, -256, 1 - Code.MAX, Code.MIN + 1, Code.MIN}) {
+            Due.is("step(" + n + ")", 0, judge.step(n));
+            isCounted("step(" + n + ")", judge, 0);
+        }
+        PathJudge stop = Code.run(1, "PUSH 1, STOP");
+        Due.is("step(-1) before STOP", 0, stop.step(-1));
+        Due.is("step(0) before STOP", 0, stop.step(0));
+        Due.is("status()", PathJudge.RUNNING, stop.status());
+        PathJudge full = Code.program(4, 1, "NEW, POP, JUMP 0");
+        full.start(0);
+        full.step(3);
+        Due.is("step(-1) before a NEW too many", 0, full.step(-1));
+        Due.is("step(0) before a NEW too many", 0, full.step(0));
+        Due.is("status()", PathJudge.RUNNING, full.status());
+    }
+
+    private static void stepsAboveMost() {
         int total = 0;
-        for (int i = 0; i < asked.length; i++) {
-            Due.is("12: step(" + asked[i] + ")", due[i], judge.step(asked[i]));
-            total += due[i];
-            Due.is("12: position()", total == 0 ? 0 : 1 + (total - 1) % 3, judge.position());
-        }
-        Due.is("12: cell(0)", 1 + (total - 1) / 3, judge.cell(0));
-        Due.is("13: status()", PathJudge.RUNNING, judge.status());
-    }
-
-    private static void stepsNotRunning() {
-        PathJudge judge = Code.program(4, 8, Code.PUSH, 1, Code.STOP, 0);
-        Due.is("12: IDLE: step(3)", 0, judge.step(3));
-        Code.isIdle("12: IDLE", judge);
-        judge.start(0);
-        Due.is("12: step(3)", 2, judge.step(3));
-        Due.is("12: STOPPED: step(3)", 0, judge.step(3));
-        Code.isAt("12: STOPPED", judge, PathJudge.STOPPED, 1, 1, 0);
-    }
-
-    private static void isStack(String what, PathJudge judge, int... cells) {
-        Due.is(what + ": height()", cells.length, judge.height());
-        for (int i = 0; i < cells.length; i++) {
-            Due.is(what + ": cell(" + i + ")", cells[i], judge.cell(i));
+        PathJudge judge = counter();
+        for (int n : new int[] {63, 64, 65, 66, 127, 128, 129, 256, 320, 65536, 1 << 30, Code.MAX - 1, Code.MAX}) {
+            total += Math.min(n, 64);
+            Due.is("step(" + n + ")", Math.min(n, 64), judge.step(n));
+            isCounted("step(" + n + ")", judge, total);
         }
     }
 
+    private static void stepAnswers() {
+        for (int n = 0; n <= 64; n++) {
+            Due.is("step(" + n + ") of a loop", n, counter().step(n));
+        }
+        for (int n = 0; n < 20; n++) {
+            PathJudge line = Code.started(0, "PUSH 0, PUSH 0" + ", SWAP".repeat(13) + ", STOP");
+            Due.is("step(" + n + ") of 16 instructions", Math.min(n, 16), line.step(n));
+            Due.is("the rest of 16 instructions", 16 - Math.min(n, 16), line.step(64));
+        }
+    }
+
+    private static void stepNotRunning() {
+        PathJudge idle = Code.program(4, 8, "PUSH 1, STOP");
+        Due.is("IDLE: step(1)", 0, idle.step(1));
+        Due.is("IDLE: step(64)", 0, idle.step(64));
+        Code.isIdle("IDLE", idle);
+        PathJudge stopped = Code.run(64, "PUSH 1, STOP, STOP");
+        Due.is("STOPPED: step(1)", 0, stopped.step(1));
+        Due.is("STOPPED: step(64)", 0, stopped.step(64));
+        Code.isAt("STOPPED", stopped, PathJudge.STOPPED, 1, 1, 0);
+        PathJudge exhausted = Code.run(64, "NEW, POP, JUMP 0");
+        Due.is("EXHAUSTED: step(1)", 0, exhausted.step(1));
+        Due.is("EXHAUSTED: step(64)", 0, exhausted.step(64));
+        Code.isAt("EXHAUSTED", exhausted, PathJudge.EXHAUSTED, 0, 0, 8);
+        PathJudge reset = Code.run(1, "PUSH 1, PUSH 2, STOP");
+        reset.patch(1, Code.PUSH, 2);
+        Due.is("after a reset: step(64)", 0, reset.step(64));
+        Code.isIdle("after a reset", reset);
+    }
+
+    /** Every operation but the FORK in one run; TermsTest has each by itself. */
     private static void operations() {
-        PathJudge judge = Code.program(4, 8, Code.PUSH, -3, Code.PUSH, 10, Code.SWAP, 0, Code.DUP, 0, Code.ADD, 0,
-                Code.KEEP, 1, Code.NEW, 0, Code.DUP, 0, Code.LOAD, 1, Code.WRITE, 0, Code.READ, 0, Code.ADD, 0,
-                Code.KEEP, 0, Code.LOAD, 0, Code.JUMP, 15, Code.STOP, 0);
-        judge.start(0);
+        PathJudge judge = Code.started(0, "PUSH -3, PUSH 10, SWAP, DUP, ADD, KEEP 1, NEW, DUP, LOAD 1, WRITE, DUP, SAME,"
+                + " POP, JUMP 14, LOAD 1, STOP");
         int[][] stacks = {{-3}, {-3, 10}, {10, -3}, {10, -3, -3}, {10, -6}, {10}, {10, 0}, {10, 0, 0},
-            {10, 0, 0, -6}, {10, 0}, {10, -6}, {4}, {}, {4}, {4}, {4}};
+            {10, 0, 0, -6}, {10, 0}, {10, 0, 0}, {10, 1}, {10}, {10}, {10, -6}, {10, -6}};
         for (int i = 0; i < stacks.length; i++) {
-            Due.is("12: step(1)", 1, judge.step(1));
-            isStack("12: after " + i, judge, stacks[i]);
+            Due.is("position()", i, judge.position());
+            Due.is("step(1)", 1, judge.step(1));
+            Code.isStack("after " + i, judge, stacks[i]);
         }
-        Code.isAt("12: end", judge, PathJudge.STOPPED, 15, 1, 1);
-        Due.is("12: local 0", 4, judge.cell(4));
-        Due.is("12: local 1", -6, judge.cell(5));
-        Due.is("12: field", -6, judge.cell(8));
-        PathJudge pop = Code.run(0, 4, 8, Code.PUSH, 8, Code.PUSH, 9, Code.POP, 0, Code.STOP, 0);
-        isStack("12: POP", pop, 8);
-        PathJudge swap = Code.run(0, 5, 8, Code.PUSH, 1, Code.PUSH, 2, Code.PUSH, 3, Code.PUSH, 4, Code.SWAP, 0,
-                Code.STOP, 0);
-        isStack("12: SWAP on four", swap, 1, 2, 4, 3);
-        PathJudge add = Code.run(0, 5, 8, Code.PUSH, 1, Code.PUSH, 2, Code.PUSH, 3, Code.PUSH, 4, Code.ADD, 0,
-                Code.STOP, 0);
-        isStack("12: ADD on four", add, 1, 2, 7);
+        Code.isAt("at the end", judge, PathJudge.STOPPED, 15, 2, 1);
+        Due.is("local 1", -6, judge.cell(5));
+        Due.is("field", -6, judge.cell(8));
     }
 
     private static void addWraps() {
-        PathJudge up = Code.run(0, 3, 1, Code.PUSH, Integer.MAX_VALUE, Code.PUSH, 1, Code.ADD, 0, Code.STOP, 0);
-        Due.is("12: MAX + 1", Integer.MIN_VALUE, up.cell(0));
-        PathJudge down = Code.run(0, 3, 1, Code.PUSH, Integer.MIN_VALUE, Code.PUSH, -1, Code.ADD, 0, Code.STOP, 0);
-        Due.is("12: MIN - 1", Integer.MAX_VALUE, down.cell(0));
-    }
-
-    private static void unsetLocals() {
-        PathJudge judge = Code.run(0, 64, 1, Code.PUSH, 5, Code.KEEP, 0, Code.LOAD, 1, Code.KEEP, 0, Code.LOAD, 0,
-                Code.PUSH, 2, Code.STOP, 0);
-        isStack("12: UNSET holds 0", judge, 0, 2);
-        Due.is("12: cell(4)", 0, judge.cell(4));
-    }
-
-    private static void recordsAreNumbered() {
-        PathJudge judge = Code.program(4, 3, Code.NEW, 0, Code.NEW, 0, Code.NEW, 0, Code.PUSH, 30, Code.WRITE, 0,
-                Code.PUSH, 20, Code.WRITE, 0, Code.DUP, 0, Code.PUSH, 10, Code.WRITE, 0, Code.READ, 0, Code.STOP, 0);
-        judge.start(0);
-        for (int made = 1; made <= 3; made++) {
-            Due.is("12: step(1)", 1, judge.step(1));
-            Due.is("16: records()", made, judge.records());
-            Due.is("17: cell", made - 1, judge.cell(made - 1));
-            Due.is("17: field", 0, judge.cell(8 + made - 1));
+        int[][] pairs = {{Code.MAX, 1}, {1, Code.MAX}, {Code.MIN, -1}, {-1, Code.MIN}, {Code.MAX, Code.MAX},
+            {Code.MIN, Code.MIN}, {Code.MAX, Code.MIN}, {Code.MAX, 0}, {Code.MIN, 0}, {1 << 30, 1 << 30}};
+        for (int[] pair : pairs) {
+            PathJudge judge = Code.run(3, "PUSH " + pair[0] + ", PUSH " + pair[1] + ", ADD, STOP");
+            Code.isStack(pair[0] + " + " + pair[1], judge, pair[0] + pair[1]);
         }
-        judge.step(64);
-        Code.isAt("16: end", judge, PathJudge.STOPPED, 11, 1, 3);
-        Due.is("12: READ", 10, judge.cell(0));
-        Due.is("17: cell(8)", 10, judge.cell(8));
-        Due.is("17: cell(9)", 20, judge.cell(9));
-        Due.is("17: cell(10)", 30, judge.cell(10));
-        Due.is("17: cell(11)", 0, judge.cell(11));
+        Code.isStack("MAX + 1", Code.run(3, "PUSH " + Code.MAX + ", PUSH 1, ADD, STOP"), Code.MIN);
+        Code.isStack("MIN - 1", Code.run(3, "PUSH " + Code.MIN + ", PUSH -1, ADD, STOP"), Code.MAX);
     }
 
-    private static void sameRecords() {
-        PathJudge one = Code.run(0, 3, 8, Code.NEW, 0, Code.DUP, 0, Code.SAME, 0, Code.STOP, 0);
-        isStack("12: SAME, one record", one, 1);
-        PathJudge two = Code.run(0, 3, 8, Code.NEW, 0, Code.NEW, 0, Code.SAME, 0, Code.STOP, 0);
-        isStack("12: SAME, two records", two, 0);
-        PathJudge later = Code.run(0, 5, 8, Code.NEW, 0, Code.POP, 0, Code.NEW, 0, Code.DUP, 0, Code.SAME, 0,
-                Code.STOP, 0);
-        isStack("12: SAME, the second record twice", later, 1);
-        PathJudge below = Code.run(0, 5, 8, Code.PUSH, 6, Code.PUSH, 7, Code.NEW, 0, Code.DUP, 0, Code.SAME, 0,
-                Code.STOP, 0);
-        isStack("12: SAME leaves what is below", below, 6, 7, 1);
-    }
-
-    /** The cell counts the forks that went on at t by 1 and the others by 100, one fork every four steps. */
-    private static PathJudge counter() {
-        return Code.program(4, 1, Code.PUSH, 0, Code.FORK, 5, Code.PUSH, 100, Code.ADD, 0, Code.JUMP, 1,
-                Code.PUSH, 1, Code.ADD, 0, Code.JUMP, 1);
-    }
-
-    private static void forksFollowChoices() {
-        PathJudge judge = counter();
-        for (int choices : new int[] {0, 1, 2, 3, 10, 0x55555555, -1, Integer.MIN_VALUE}) {
-            judge.start(choices);
-            judge.step(1);
-            int want = 0;
-            for (int k = 0; k < 3; k++) {
-                boolean goes = (choices >> k & 1) == 1;
-                Due.is("12: step(1)", 1, judge.step(1));
-                Due.is("12: fork " + k + " of " + choices, goes ? 5 : 2, judge.position());
-                judge.step(3);
-                want += goes ? 1 : 100;
-                Due.is("12: cell(0)", want, judge.cell(0));
-            }
-        }
-    }
-
-    private static void forksWrapAtThirtyTwo() {
-        for (int choices : new int[] {0, 1, -1, 0x80000001, 0x7ffffffe, 0x12345678, Integer.MIN_VALUE}) {
-            PathJudge judge = counter();
-            judge.start(choices);
+    private static void forks() {
+        for (int choices : CHOICES) {
+            PathJudge judge = Code.started(choices, "PUSH 0, FORK 3, JUMP 1, JUMP 1");
             judge.step(1);
             for (int k = 0; k < 100; k++) {
                 judge.step(1);
-                Due.is("12: fork " + k, (choices >>> (k % 32) & 1) == 1 ? 5 : 2, judge.position());
-                judge.step(3);
+                boolean goes = (choices >>> (k % 32)) % 2 != 0;
+                Due.is("fork " + k + " of " + choices, goes ? 3 : 2, judge.position());
+                judge.step(1);
             }
         }
+        otherInstructionsAreNoForks();
+        manyForks();
     }
 
-    private static void stops() {
-        PathJudge judge = Code.run(0, 2, 8, Code.NEW, 0, Code.PUSH, 4, Code.STOP, 0);
-        Code.isAt("12: before STOP", judge, PathJudge.RUNNING, 2, 2, 1);
-        Due.is("12: STOP counts", 1, judge.step(5));
-        Code.isAt("12: after STOP", judge, PathJudge.STOPPED, 2, 2, 1);
-        isStack("12: after STOP", judge, 0, 4);
+    /** A JUMP is no fork, nor is anything else: only the second FORK goes. */
+    private static void otherInstructionsAreNoForks() {
+        PathJudge judge = Code.started(2, "PUSH 0, JUMP 2, DUP, POP, FORK 7, JUMP 6, FORK 8, STOP, STOP");
+        judge.step(5);
+        Due.is("the first FORK", 5, judge.position());
+        judge.step(2);
+        Due.is("the second FORK", 8, judge.position());
     }
 
-    private static void exhausts() {
-        PathJudge judge = Code.program(4, 2, Code.PUSH, 9, Code.KEEP, 0, Code.NEW, 0, Code.POP, 0, Code.PUSH, 8,
-                Code.POP, 0, Code.JUMP, 2);
-        judge.start(0);
-        Due.is("12: NEW is not counted", 12, judge.step(64));
-        Code.isAt("12: EXHAUSTED", judge, PathJudge.EXHAUSTED, 2, 0, 2);
-        Due.is("12: EXHAUSTED: cell(4)", 9, judge.cell(4));
-        Due.is("12: EXHAUSTED: step(1)", 0, judge.step(1));
-        Code.isAt("12: EXHAUSTED", judge, PathJudge.EXHAUSTED, 2, 0, 2);
-        judge.start(0);
-        Due.is("12: just the steps before", 12, judge.step(12));
-        Due.is("13: the NEW is still to come", PathJudge.RUNNING, judge.status());
-        Due.is("12: step(0)", 0, judge.step(0));
-        Due.is("13: step(0) changes nothing", PathJudge.RUNNING, judge.status());
-        Due.is("12: step(1)", 0, judge.step(1));
-        Due.is("13: now it has come", PathJudge.EXHAUSTED, judge.status());
-        PathJudge exact = Code.run(0, 64, 2, Code.NEW, 0, Code.NEW, 0, Code.SAME, 0, Code.STOP, 0);
-        Code.isAt("12: as many as the pool has", exact, PathJudge.STOPPED, 3, 1, 2);
-    }
-
-    private static void cells() {
-        PathJudge judge = Code.run(0, 7, 8, Code.PUSH, 41, Code.KEEP, 0, Code.PUSH, 42, Code.KEEP, 1, Code.NEW, 0,
-                Code.PUSH, 43, Code.PUSH, 44, Code.STOP, 0);
-        int[] due = {0, 43, 44, 0, 41, 42, 0, 0, 0, 0};
-        for (int i = 0; i < due.length; i++) {
-            Due.is("17: cell(" + i + ")", due[i], judge.cell(i));
+    /** As many forks as an object's calls allow. */
+    private static void manyForks() {
+        int choices = 0x8421f0a7;
+        PathJudge judge = Code.started(choices, "FORK 0, JUMP 0");
+        int position = 0;
+        int k = 0;
+        for (int call = 0; call < 250; call++) {
+            Due.is("step(64)", 64, judge.step(64));
+            for (int i = 0; i < 64; i++) {
+                if (position == 1) {
+                    position = 0;
+                } else {
+                    position = (choices >>> (k % 32)) % 2 != 0 ? 0 : 1;
+                    k++;
+                }
+            }
+            Due.is("after " + k + " forks", position, judge.position());
         }
-        for (int i : new int[] {Integer.MIN_VALUE, Integer.MIN_VALUE + 8, -8, -1, 16, 17, 100, Integer.MAX_VALUE}) {
-            Due.is("17: cell(" + i + ")", 0, judge.cell(i));
+    }
+
+    private static void same() {
+        Code.isStack("0 and 0", Code.run(3, "NEW, DUP, SAME, STOP"), 1);
+        Code.isStack("0 and 1", Code.run(3, "NEW, NEW, SAME, STOP"), 0);
+        Code.isStack("1 and 0", Code.run(4, "NEW, NEW, SWAP, SAME, STOP"), 0);
+        Code.isStack("1 and 1", Code.run(5, "NEW, POP, NEW, DUP, SAME, STOP"), 1);
+        PathJudge last = Code.started(0x7f, "NEW, KEEP 0, FORK 0, LOAD 0, LOAD 0, SAME, STOP");
+        last.step(8 * 3 + 3);
+        Code.isStack("7 and 7", last, 1);
+        PathJudge next = Code.started(0x3f, "NEW, KEEP 0, FORK 0, NEW, LOAD 0, SAME, STOP");
+        next.step(7 * 3 + 3);
+        Code.isStack("7 and 6", next, 0);
+        Code.isStack("what is below stays", Code.run(5, "PUSH 6, PUSH 7, NEW, DUP, SAME, STOP"), 6, 7, 1);
+    }
+
+    private static void stopCounts() {
+        Due.is("with those before it", 3, Code.started(0, "NEW, PUSH 4, STOP").step(64));
+        PathJudge judge = Code.run(2, "NEW, PUSH 4, STOP");
+        Due.is("status()", PathJudge.RUNNING, judge.status());
+        Due.is("alone", 1, judge.step(1));
+        Due.is("status()", PathJudge.STOPPED, judge.status());
+        Due.is("only once", 0, judge.step(1));
+        PathJudge just = Code.started(0, "PUSH 1, STOP");
+        Due.is("as the last of n", 2, just.step(2));
+        Due.is("status()", PathJudge.STOPPED, just.status());
+    }
+
+    private static void stopStays() {
+        PathJudge judge = Code.run(64, "NEW, KEEP 1, PUSH 8, KEEP 0, LOAD 1, PUSH 6, WRITE, LOAD 1, PUSH 7, STOP, POP,"
+                + " JUMP 0");
+        for (int i = 0; i < 2; i++) {
+            Code.isAt("STOP", judge, PathJudge.STOPPED, 9, 2, 1);
+            Code.isStack("STOP", judge, 0, 7);
+            Due.is("local 0", 8, judge.cell(4));
+            Due.is("local 1", 0, judge.cell(5));
+            Due.is("field", 6, judge.cell(8));
+            Due.is("step(64)", 0, judge.step(64));
         }
-        PathJudge low = Code.run(0, 5, 8, Code.PUSH, 1, Code.PUSH, 2, Code.PUSH, 3, Code.POP, 0, Code.POP, 0,
-                Code.STOP, 0);
-        Due.is("15: height()", 1, low.height());
-        Due.is("17: a dropped cell", 0, low.cell(1) + low.cell(2));
-        PathJudge eight = new PathJudge(4, 8);
-        eight.emit(Code.NEW, 0);
-        eight.emit(Code.PUSH, 77);
-        eight.emit(Code.WRITE, 0);
-        eight.emit(Code.JUMP, 0);
-        eight.start(0);
-        Due.is("12: eight records", 32, eight.step(64));
+        PathJudge last = Code.run(64, "PUSH 3, JUMP 15" + ", POP".repeat(13) + ", STOP");
+        Code.isAt("at the last of 16", last, PathJudge.STOPPED, 15, 1, 0);
+        PathJudge four = Code.run(64, "PUSH 1, PUSH 2, PUSH 3, PUSH 4, STOP");
+        Code.isStack("a full stack", four, 1, 2, 3, 4);
+    }
+
+    private static void newAtTheEnd() {
+        for (int pool = 1; pool <= 8; pool++) {
+            PathJudge judge = Code.program(4, pool, "NEW, POP, JUMP 0");
+            judge.start(0);
+            Due.is("as many as the pool of " + pool + " has", 3 * pool, judge.step(3 * pool));
+            Due.is("status() with a pool of " + pool, PathJudge.RUNNING, judge.status());
+            Due.is("one more", 0, judge.step(1));
+            Due.is("status() with a pool of " + pool, PathJudge.EXHAUSTED, judge.status());
+            Due.is("start(0)", true, judge.start(0));
+            Due.is("not counted", 3 * pool, judge.step(64));
+            Due.is("records()", pool, judge.records());
+        }
+        PathJudge exact = Code.program(4, 2, "NEW, NEW, SAME, STOP");
+        exact.start(0);
+        Due.is("no NEW too many", 4, exact.step(64));
+        Due.is("no NEW too many", PathJudge.STOPPED, exact.status());
+        PathJudge first = Code.program(4, 1, "NEW, NEW, SAME, STOP");
+        first.start(0);
+        Due.is("the second NEW of a pool of 1", 1, first.step(64));
+        Code.isStack("the second NEW of a pool of 1", first, 0);
+    }
+
+    private static void newStays() {
+        PathJudge judge = Code.program(4, 2, "NEW, DUP, KEEP 0, PUSH 6, WRITE, PUSH 9, KEEP 1, PUSH 5, NEW, POP, JUMP 8");
+        judge.start(0);
+        Due.is("up to the third NEW", 11, judge.step(11));
+        Code.isAt("before", judge, PathJudge.RUNNING, 8, 1, 2);
+        for (int i = 0; i < 2; i++) {
+            Due.is("step(64)", 0, judge.step(64));
+            Code.isAt("EXHAUSTED", judge, PathJudge.EXHAUSTED, 8, 1, 2);
+            Code.isStack("EXHAUSTED", judge, 5);
+            Due.is("local 0", 0, judge.cell(4));
+            Due.is("local 1", 9, judge.cell(5));
+            Due.is("field 0", 6, judge.cell(8));
+            Due.is("field 1", 0, judge.cell(9));
+        }
+        PathJudge first = Code.run(64, "NEW, PUSH 7, WRITE, JUMP 0");
+        Code.isAt("at position 0, with eight records", first, PathJudge.EXHAUSTED, 0, 0, 8);
         for (int r = 0; r < 8; r++) {
-            Due.is("17: field " + r, 77, eight.cell(8 + r));
+            Due.is("field " + r, 7, first.cell(8 + r));
         }
-        Due.is("17: cell(16)", 0, eight.cell(16));
-        eight.start(0);
-        Due.is("17: no record yet", 0, eight.cell(8));
-        eight.step(1);
-        Due.is("17: a new record's field is 0", 0, eight.cell(8));
-        eight.patch(3, Code.JUMP, 0);
-        Code.isIdle("17: reset", eight);
+    }
+
+    private static void status() {
+        PathJudge judge = new PathJudge(4, 1);
+        Due.is("at first", PathJudge.IDLE, judge.status());
+        Code.append(judge, "FORK 2, NEW, NEW, POP, PUSH 0, STOP");
+        Due.is("after emit", PathJudge.IDLE, judge.status());
+        judge.start(1);
+        Due.is("after start", PathJudge.RUNNING, judge.status());
+        judge.step(4);
+        Due.is("before STOP", PathJudge.RUNNING, judge.status());
+        judge.step(1);
+        Due.is("after STOP", PathJudge.STOPPED, judge.status());
+        judge.start(0);
+        Due.is("after another start", PathJudge.RUNNING, judge.status());
+        judge.step(2);
+        Due.is("before a NEW too many", PathJudge.RUNNING, judge.status());
+        judge.step(1);
+        Due.is("after a NEW too many", PathJudge.EXHAUSTED, judge.status());
+        judge.patch(5, Code.STOP, 0);
+        Due.is("after patch", PathJudge.IDLE, judge.status());
+        judge.start(0);
+        judge.emit(Code.STOP, 0);
+        Due.is("after emit", PathJudge.IDLE, judge.status());
+        judge.start(0);
+        judge.clear();
+        Due.is("after clear", PathJudge.IDLE, judge.status());
+    }
+
+    private static void position() {
+        PathJudge judge = Code.started(0, "PUSH 7, PUSH 1" + ", SWAP".repeat(13) + ", STOP");
+        for (int p = 0; p < 16; p++) {
+            Due.is("position() when RUNNING", p, judge.position());
+            judge.step(1);
+        }
+        Due.is("position() when STOPPED", 15, judge.position());
+        PathJudge exhausted = Code.run(64, "JUMP 2, POP, NEW, POP, JUMP 2");
+        Due.is("position() when EXHAUSTED", 2, exhausted.position());
+        Due.is("position() after start", 0, Code.started(0, "JUMP 1, JUMP 0").position());
+    }
+
+    private static void positionIdle() {
+        Due.is("new", 0, new PathJudge(4, 8).position());
+        for (PathJudge judge : Code.busy()) {
+            Due.holds("not 0 before", judge.position() != 0);
+            judge.patch(0, Code.NEW, 0);
+            Due.is("after a reset", 0, judge.position());
+        }
+    }
+
+    private static void height() {
+        PathJudge judge = Code.started(0, "PUSH 1, PUSH 2, PUSH 3, PUSH 4, POP, POP, POP, POP, JUMP 0");
+        int[] want = {0, 1, 2, 3, 4, 3, 2, 1, 0, 0};
+        for (int i = 0; i < want.length; i++) {
+            Due.is("height() after " + i, want[i], judge.height());
+            judge.step(1);
+        }
+        Due.is("STOPPED", 1, Code.run(64, "PUSH 1, STOP").height());
+        Due.is("EXHAUSTED", 1, Code.run(64, "PUSH 1, NEW, POP, JUMP 1").height());
+    }
+
+    private static void heightIdle() {
+        Due.is("new", 0, new PathJudge(4, 8).height());
+        for (PathJudge judge : Code.busy()) {
+            Due.holds("not 0 before", judge.height() != 0);
+            judge.patch(0, Code.NEW, 0);
+            Due.is("after a reset", 0, judge.height());
+        }
+    }
+
+    private static void records() {
+        PathJudge judge = Code.started(0, "NEW, POP, JUMP 0");
+        for (int made = 0; made <= 8; made++) {
+            Due.is("records()", made, judge.records());
+            judge.step(3);
+        }
+        Due.is("when EXHAUSTED", 8, judge.records());
+        judge.start(0);
+        Due.is("since the start", 0, judge.records());
+        judge.step(4);
+        Due.is("since the start", 2, judge.records());
+        PathJudge copies = Code.run(64, "NEW, DUP, DUP, KEEP 0, LOAD 0, SAME, STOP");
+        Due.is("copies are not made", 1, copies.records());
+    }
+
+    private static void recordsIdle() {
+        Due.is("new", 0, new PathJudge(4, 8).records());
+        for (PathJudge judge : Code.busy()) {
+            Due.holds("not 0 before", judge.records() != 0);
+            judge.patch(0, Code.NEW, 0);
+            Due.is("after a reset", 0, judge.records());
+        }
+    }
+
+    private static void cellOfStack() {
+        PathJudge judge = Code.started(0, "PUSH 41, PUSH 42, PUSH 43, PUSH 44, POP, POP, POP, POP, JUMP 0");
+        int[] heights = {0, 1, 2, 3, 4, 3, 2, 1, 0};
+        for (int height : heights) {
+            for (int i = 0; i < 4; i++) {
+                Due.is("cell(" + i + ") of " + height, i < height ? 41 + i : 0, judge.cell(i));
+            }
+            judge.step(1);
+        }
+    }
+
+    private static void cellOfLocals() {
+        PathJudge judge = Code.started(0, "PUSH 41, KEEP 0, PUSH 42, KEEP 1, PUSH 1, PUSH 2, PUSH 3, PUSH 4, STOP");
+        for (int p = 0; p < 9; p++) {
+            Due.is("cell(4) at " + p, p < 2 ? 0 : 41, judge.cell(4));
+            Due.is("cell(5) at " + p, p < 4 ? 0 : 42, judge.cell(5));
+            judge.step(1);
+        }
+        Due.is("cell(3), the top of a full stack", 4, judge.cell(3));
+        Due.is("cell(4) when STOPPED", 41, judge.cell(4));
+        Due.is("cell(5) when STOPPED", 42, judge.cell(5));
+    }
+
+    private static void cellOfRecords() {
+        PathJudge judge = Code.started(0, "NEW, DUP, PUSH 77, WRITE, POP, JUMP 0");
+        for (int made = 1; made <= 8; made++) {
+            judge.step(1);
+            Due.is("a new field", 0, judge.cell(8 + made - 1));
+            judge.step(5);
+            for (int r = 0; r < 9; r++) {
+                Due.is("field " + r + " of " + made, r < made ? 77 : 0, judge.cell(8 + r));
+            }
+        }
+        judge.step(1);
+        Due.is("EXHAUSTED", 77, judge.cell(15));
+        judge.start(0);
+        Due.is("none is there yet", 0, judge.cell(8));
+        judge.step(12);
+        Due.is("the second", 77, judge.cell(9));
+        Due.is("the third is of the run before", 0, judge.cell(10));
+        PathJudge apart = Code.run(8, "NEW, NEW, PUSH 6, WRITE, PUSH 5, WRITE, PUSH 0, STOP");
+        Due.is("field 0", 5, apart.cell(8));
+        Due.is("field 1", 6, apart.cell(9));
+    }
+
+    private static void cellElsewhere() {
+        PathJudge judge = Code.run(8 * 4 + 4, "PUSH 41, KEEP 0, PUSH 42, KEEP 1, NEW, PUSH 77, WRITE, JUMP 4");
+        Code.isAt("eight records", judge, PathJudge.RUNNING, 4, 0, 8);
+        for (int i : new int[] {0, 1, 2, 3, 6, 7}) {
+            Due.is("cell(" + i + ")", 0, judge.cell(i));
+        }
+        for (int i : Code.OUTSIDE) {
+            Due.is("cell(" + i + ")", 0, judge.cell(i));
+        }
+        PathJudge high = Code.run(64, "PUSH 1, PUSH 2, PUSH 3, PUSH 4, STOP");
+        for (int i = 4; i < 20; i++) {
+            Due.is("beside a full stack: cell(" + i + ")", 0, high.cell(i));
+        }
+        PathJudge low = Code.run(6, "PUSH 1, PUSH 2, PUSH 3, PUSH 4, POP, POP, STOP");
+        Due.is("a cell that was dropped", 0, low.cell(2));
+        Due.is("the cell above it", 0, low.cell(3));
+    }
+
+    private static void cellIdle() {
+        PathJudge fresh = new PathJudge(4, 8);
+        for (int i = -1; i < 17; i++) {
+            Due.is("new: cell(" + i + ")", 0, fresh.cell(i));
+        }
+        for (PathJudge judge : Code.busy()) {
+            Due.is("local 1 before", 7, judge.cell(5));
+            judge.patch(0, Code.NEW, 0);
+            for (int i = -1; i < 17; i++) {
+                Due.is("after a reset: cell(" + i + ")", 0, judge.cell(i));
+            }
+        }
     }
 }
