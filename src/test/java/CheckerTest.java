@@ -264,39 +264,47 @@ public final class CheckerTest {
         Due.is("above the greatest height", 0, low.kinds(0, 3, 4));
     }
 
+    /** Every height is at position 0 and from 3 on, so that whatever place is next to another has some kind. */
+    private static PathJudge dense() {
+        return Code.program(4, 1, "FORK 3, PUSH 0, JUMP 0" + ", FORK 0".repeat(12) + ", JUMP 0");
+    }
+
     private static void kindsElsewhere() {
-        PathJudge judge = Code.program(4, 1, "PUSH 0, PUSH 0, PUSH 0, PUSH 0, FORK 4, STOP");
+        PathJudge judge = dense();
         for (int far : Code.OUTSIDE) {
             Due.is("p " + far, 0, judge.kinds(far, 0, 4));
             Due.is("p " + far, 0, judge.kinds(far, 4, 0));
             Due.is("h " + far, 0, judge.kinds(4, far, 4));
             Due.is("h " + far, 0, judge.kinds(4, far, 0));
             Due.is("place " + far, 0, judge.kinds(4, 4, far));
-            Due.is("place " + far, 0, judge.kinds(0, 0, far));
+            Due.is("place " + far, 0, judge.kinds(4, 0, far));
             Due.is("all three " + far, 0, judge.kinds(far, far, far));
         }
-        for (int p = 6; p < 16; p++) {
-            Due.is("p " + p + " of 6", 0, judge.kinds(p, 4, 4));
-        }
-        for (int h = 5; h < 16; h++) {
-            Due.is("h " + h, 0, judge.kinds(4, h, 4));
-            Due.is("h " + h + ", place " + h, 0, judge.kinds(4, h, h - 1));
-        }
-        for (int place = 6; place < 16; place++) {
-            Due.is("place " + place, 0, judge.kinds(4, 4, place));
-            Due.is("place " + place + " of an empty stack", 0, judge.kinds(0, 0, place));
-        }
-        for (int h = 0; h < 4; h++) {
-            for (int place = h; place < 4; place++) {
-                Due.is("place " + place + " of a stack of " + h, 0, judge.kinds(h, h, place));
+        for (int h = 0; h <= 4; h++) {
+            for (int place = -6; place < 16; place++) {
+                boolean there = place >= 0 && place < h || place == 4 || place == 5;
+                int want = !there ? 0 : place < 4 ? N : U;
+                Due.is("kinds(5, " + h + ", " + place + ")", want, judge.kinds(5, h, place));
             }
-            Due.is("place -1 of a stack of " + h, 0, judge.kinds(h, h, -1));
         }
-        Due.is("h -1 and place 5", 0, judge.kinds(1, -1, 5));
-        judge.clear();
-        Due.is("p 0 of none", 0, judge.kinds(0, 0, 4));
-        Code.append(judge, "JUMP 0");
-        Due.is("p 4 of 1", 0, judge.kinds(4, 4, 4));
+        PathJudge other = dense();
+        for (int place = 0; place < 6; place++) {
+            for (int p : new int[] {0, 4, 15}) {
+                Due.is("h -1, place " + place + " at " + p, 0, other.kinds(p, -1, place));
+                Due.is("h 5, place " + place + " at " + p, 0, other.kinds(p, 5, place));
+                Due.is("h 6, place " + place + " at " + p, 0, other.kinds(p, 6, place));
+            }
+            Due.is("p -1, place " + place, 0, other.kinds(-1, 4, place));
+            Due.is("p 16, place " + place, 0, other.kinds(16, 4, place));
+        }
+        other.clear();
+        Due.is("p 0 of none", 0, other.kinds(0, 0, 4));
+        Code.append(other, "FORK 0, FORK 0, FORK 0");
+        Due.is("p 2 of 3", U, other.kinds(2, 0, 4));
+        for (int p = 3; p < 16; p++) {
+            Due.is("p " + p + " of 3", 0, other.kinds(p, 0, 4));
+            Due.is("p " + p + " of 3", 0, other.kinds(p, 4, 3));
+        }
     }
 
     private static void distanceIsLeast() {

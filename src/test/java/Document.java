@@ -10,6 +10,7 @@ import java.nio.file.Path;
 final class Document {
     private static final Path FILE = Path.of("../shared/DOC.md");
     private static final String WORDS = read();
+    private static String part = "";
     private static String left = "";
 
     private Document() {
@@ -30,20 +31,32 @@ final class Document {
         int start = WORDS.indexOf(from);
         int end = WORDS.indexOf(to);
         boolean found = start >= 0 && end > start;
-        Due.about(from);
+        part = from.split("`")[0].replace("## ", "").strip();
+        Due.about(part);
         Due.holds("it stands in the document, and then " + to, found);
         left = found ? WORDS.substring(start + from.length(), end).strip() : "";
     }
 
     /** The next words, and the test that fails when they are broken. */
     static void says(String words, Runnable test) {
-        Due.about(words);
+        Due.about(part + ", \"" + words + "\"");
         boolean next = left.startsWith(words);
         Due.holds("these words come next, and not " + left, next);
         left = next ? left.substring(words.length()).strip() : left;
         int before = Due.answers();
-        test.run();
-        Due.holds("it is tested", Due.answers() > before);
+        Due.holds("nothing is thrown", ends(test));
+        Due.holds("it is tested", Due.answers() > before + 1);
+    }
+
+    /** A call that throws breaks these words, and leaves the tests of the others to run. */
+    private static boolean ends(Runnable test) {
+        try {
+            test.run();
+            return true;
+        } catch (RuntimeException e) {
+            e.printStackTrace(System.out);
+            return false;
+        }
     }
 
     private static void close() {

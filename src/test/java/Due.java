@@ -9,7 +9,7 @@ final class Due {
 
     /** What the answers from here on are about, for the lines that are printed. */
     static void about(String words) {
-        subject = "\"" + words + "\": ";
+        subject = words + ": ";
     }
 
     static void is(String what, long want, long got) {

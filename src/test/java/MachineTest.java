@@ -108,13 +108,14 @@ public final class MachineTest {
     }
 
     private static void startState() {
-        PathJudge judge = Code.program(4, 8, "NEW, DUP, PUSH 7, WRITE, KEEP 1, PUSH 6, KEEP 0, PUSH 5, STOP");
+        PathJudge judge = Code.program(4, 8, "NEW, PUSH 7, WRITE, PUSH 6, KEEP 0, PUSH 8, KEEP 1, PUSH 5, STOP");
         for (int run = 0; run < 3; run++) {
             Due.is("start(" + run + ")", true, judge.start(run));
             isFresh("run " + run, judge);
             Due.is("step(64)", 9, judge.step(64));
             Code.isAt("run " + run, judge, PathJudge.STOPPED, 8, 1, 1);
             Due.is("local 0", 6, judge.cell(4));
+            Due.is("local 1", 8, judge.cell(5));
             Due.is("field", 7, judge.cell(8));
         }
         PathJudge locals = Code.started(1, "FORK 3, LOAD 0, JUMP 5, PUSH 9, KEEP 0, LOAD 0, PUSH 1, STOP");
@@ -242,8 +243,8 @@ public final class MachineTest {
 
     /** Every operation but the FORK in one run; TermsTest has each by itself. */
     private static void operations() {
-        PathJudge judge = Code.started(0, "PUSH -3, PUSH 10, SWAP, DUP, ADD, KEEP 1, NEW, DUP, LOAD 1, WRITE, DUP, SAME,"
-                + " POP, JUMP 14, LOAD 1, STOP");
+        PathJudge judge = Code.started(0, "PUSH -3, PUSH 10, SWAP, DUP, ADD, KEEP 1, NEW, DUP, LOAD 1, WRITE, DUP,"
+                + " SAME, POP, JUMP 14, LOAD 1, STOP");
         int[][] stacks = {{-3}, {-3, 10}, {10, -3}, {10, -3, -3}, {10, -6}, {10}, {10, 0}, {10, 0, 0},
             {10, 0, 0, -6}, {10, 0}, {10, 0, 0}, {10, 1}, {10}, {10}, {10, -6}, {10, -6}};
         for (int i = 0; i < stacks.length; i++) {
@@ -377,7 +378,8 @@ public final class MachineTest {
     }
 
     private static void newStays() {
-        PathJudge judge = Code.program(4, 2, "NEW, DUP, KEEP 0, PUSH 6, WRITE, PUSH 9, KEEP 1, PUSH 5, NEW, POP, JUMP 8");
+        PathJudge judge = Code.program(4, 2, "NEW, DUP, KEEP 0, PUSH 6, WRITE, PUSH 9, KEEP 1, PUSH 5, NEW, POP,"
+                + " JUMP 8");
         judge.start(0);
         Due.is("up to the third NEW", 11, judge.step(11));
         Code.isAt("before", judge, PathJudge.RUNNING, 8, 1, 2);

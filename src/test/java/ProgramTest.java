@@ -144,7 +144,8 @@ public final class ProgramTest {
     }
 
     private static void emitNoOperation() {
-        for (PathJudge judge : new PathJudge[] {new PathJudge(4, 8), Code.program(4, 8, "STOP" + ", STOP".repeat(14))}) {
+        PathJudge fifteen = Code.program(4, 8, "STOP" + ", STOP".repeat(14));
+        for (PathJudge judge : new PathJudge[] {new PathJudge(4, 8), fifteen}) {
             for (int op : NO_OPERATION) {
                 Due.is("emit(" + op + ", 0)", -2, judge.emit(op, 0));
                 Due.is("this is looked at before arg: emit(" + op + ", 2)", -2, judge.emit(op, 2));

@@ -20,14 +20,15 @@ public final class RulesTest {
                 + " UNSET is reached.", RulesTest::firstSituation);
         Document.says("From a reached situation at p these things happen, in this order:", RulesTest::order);
 
-        Document.open("these things happen, in this order:", "3. Kinds:");
-        Document.says("1. Cells needed on the stack: POP, DUP, READ, KEEP, STOP need 1;",
-                () -> needs(1, "POP, DUP, READ, KEEP, STOP"));
+        Document.open("1. Cells needed on the stack:", "2. PUSH, NEW, DUP and LOAD need");
+        Document.says("POP, DUP, READ, KEEP, STOP need 1;", () -> needs(1, "POP, DUP, READ, KEEP, STOP"));
         Document.says("SWAP, ADD, WRITE, SAME need 2;", () -> needs(2, "SWAP, ADD, WRITE, SAME"));
         Document.says("the others 0.", () -> needs(0, "PUSH, NEW, LOAD, JUMP, FORK"));
         Document.says("If fewer are there, the fault UNDER is noted at p,", RulesTest::underIsNoted);
         Document.says("and nothing further happens from this situation.", RulesTest::underEnds);
-        Document.says("2. PUSH, NEW, DUP and LOAD need the height to be less than the greatest height;",
+
+        Document.open("nothing further happens from this situation. 2.", "3. Kinds:");
+        Document.says("PUSH, NEW, DUP and LOAD need the height to be less than the greatest height;",
                 RulesTest::room);
         Document.says("otherwise the fault OVER is noted at p,", RulesTest::overIsNoted);
         Document.says("and nothing further happens from this situation.", RulesTest::overEnds);
@@ -395,11 +396,12 @@ public final class RulesTest {
     }
 
     private static void othersGo() {
-        String others = "PUSH 3, NEW 3, POP 3, DUP 3, SWAP 3, ADD 3, READ 3, WRITE 3, LOAD 1, KEEP 1, SAME 3";
+        String others = "PUSH 4, NEW 4, POP 4, DUP 4, SWAP 4, ADD 4, READ 4, WRITE 4, LOAD 1, KEEP 1, SAME 4";
         for (String name : others.split(", ")) {
             PathJudge judge = Code.program(4, 8, "PUSH 0, PUSH 0, " + name + ", JUMP 3, JUMP 4");
             Due.is(name + ": distance(3)", 3, judge.distance(3));
             Due.is(name + ": distance(4)", -1, judge.distance(4));
+            Due.is(name + ": distance(1)", 1, judge.distance(1));
             Due.is(name + ": heights(0)", 1, judge.heights(0));
             int atEnd = faultOf(4, 2, "PUSH 0, PUSH 0, " + name);
             Due.is(name + " at the end", PathJudge.LEAVES, atEnd & PathJudge.LEAVES);
